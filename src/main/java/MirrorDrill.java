@@ -454,11 +454,6 @@ public final class MirrorDrill {
             return steps[man * VIEWS + seen];
         }
 
-        private long stepOf(int man, long wide) {
-            int seen = (int) (wide >>> (2 * man)) & (VIEWS - 1);
-            return (long) steps[man * VIEWS + seen] << (2 * man);
-        }
-
         long after(long row) {
             if (men == 0) {
                 return row;
@@ -466,7 +461,8 @@ public final class MirrorDrill {
             long wide = widened(row);
             long next = 0;
             for (int man = 0; man < men; man++) {
-                next |= stepOf(man, wide);
+                int seen = (int) (wide >>> (2 * man)) & (VIEWS - 1);
+                next |= (long) steps[man * VIEWS + seen] << (2 * man);
             }
             return next;
         }
@@ -482,7 +478,8 @@ public final class MirrorDrill {
             long next = 0;
             for (int i = 0; i < count; i++) {
                 int at = from + i < men ? from + i : from + i - men;
-                next |= stepOf(at, wide);
+                int seen = (int) (wide >>> (2 * at)) & (VIEWS - 1);
+                next |= (long) steps[at * VIEWS + seen] << (2 * at);
             }
             return next;
         }
@@ -1378,7 +1375,7 @@ public final class MirrorDrill {
 
         private int layWord(int last, int move, Pile pile) {
             int length = 1;
-            for (int at = last; at > 0; at = queue[at] >>> 16) {
+            for (int at = last; at > 0 && length <= queued; at = queue[at] >>> 16) {
                 length++;
             }
             pile.reserve(length);
