@@ -36,6 +36,8 @@ public final class MirrorDrill {
 
     /** What a man can see: left, own and right, two bits each, left in the lowest. */
     private static final int VIEWS = 64;
+    /** What two men side by side can see. */
+    private static final int PAIR_VIEWS = 256;
 
     private final int[] tape = new int[MOST_BYTES];
     private int taped = 0;
@@ -370,6 +372,7 @@ public final class MirrorDrill {
         final int[] worths = {0, 1, 2, 3};
         private final byte[] table = new byte[MOST_RULES * VIEWS];
         private byte[] steps = new byte[0];
+        private byte[] pairSteps = new byte[0];
 
         void clear() {
             moves = 2;
@@ -408,14 +411,21 @@ public final class MirrorDrill {
             return table[rule * VIEWS + seen];
         }
 
-        /** What each man does by all he can see, laid out once so that a beat only looks up. */
+        /** Lays out what each man, and each two, do by all they can see, so that a beat only looks up. */
         void settle() {
             if (men > 0 && steps.length == 0) {
                 steps = new byte[MOST_MEN * VIEWS];
+                pairSteps = new byte[MOST_MEN / 2 * PAIR_VIEWS];
             }
             for (int man = 0; man < men; man++) {
                 for (int seen = 0; seen < VIEWS; seen++) {
                     steps[man * VIEWS + seen] = (byte) told(man, seen & 3, (seen >> 2) & 3, seen >> 4);
+                }
+            }
+            for (int man = 0; man < men; man += 2) {
+                for (int seen = 0; seen < PAIR_VIEWS; seen++) {
+                    int other = man + 1 < men ? doesBy(man + 1, seen >> 2) : 0;
+                    pairSteps[man / 2 * PAIR_VIEWS + seen] = (byte) (doesBy(man, seen & (VIEWS - 1)) | (other << 2));
                 }
             }
         }
@@ -454,32 +464,37 @@ public final class MirrorDrill {
             return steps[man * VIEWS + seen];
         }
 
-        long after(long row) {
-            if (men == 0) {
-                return row;
-            }
-            long wide = widened(row);
+        /** What the men of a stretch do next, two at a time: one beside it may be among them. */
+        private long stepsOf(long wide, int from, int to) {
+            byte[] pairs = pairSteps;
             long next = 0;
-            for (int man = 0; man < men; man++) {
-                int seen = (int) (wide >>> (2 * man)) & (VIEWS - 1);
-                next |= (long) steps[man * VIEWS + seen] << (2 * man);
+            int at = from / 2 * PAIR_VIEWS;
+            int end = 2 * to;
+            for (int shift = from / 2 * 4; shift <= end; shift += 4) {
+                next |= (long) pairs[at + ((int) (wide >>> shift) & (PAIR_VIEWS - 1))] << shift;
+                at += PAIR_VIEWS;
             }
             return next;
         }
 
-        /** Like after, but only for the men within reach of one; the others are left at 0. */
+        long after(long row) {
+            return men == 0 ? row : stepsOf(widened(row), 0, men - 1);
+        }
+
+        /** Like after, but good only for the men within reach of one. */
         long afterNear(long row, int man, int reach) {
-            int from = ring ? man - Math.min(reach, men) : Math.max(0, man - reach);
-            int count = ring ? Math.min(men, 2 * reach + 1) : Math.min(men - 1, man + reach) - from + 1;
-            if (from < 0) {
-                from += men;
-            }
             long wide = widened(row);
-            long next = 0;
-            for (int i = 0; i < count; i++) {
-                int at = from + i < men ? from + i : from + i - men;
-                int seen = (int) (wide >>> (2 * at)) & (VIEWS - 1);
-                next |= (long) steps[at * VIEWS + seen] << (2 * at);
+            if (2 * reach + 1 >= men) {
+                return stepsOf(wide, 0, men - 1);
+            }
+            int from = man - reach;
+            int to = man + reach;
+            long next = stepsOf(wide, Math.max(from, 0), Math.min(to, men - 1));
+            if (ring && from < 0) {
+                next |= stepsOf(wide, from + men, men - 1);
+            }
+            if (ring && to >= men) {
+                next |= stepsOf(wide, 0, to - men);
             }
             return next;
         }
@@ -612,7 +627,8 @@ public final class MirrorDrill {
             if (at >= length) {
                 token = END;
             } else if (isLetter(text[at])) {
-                scanWord();
+                packWord();
+                token = at - place > LONGEST_WORD ? BAD : wordToken(name);
             } else if (isDigit(text[at])) {
                 scanNumber();
             } else {
@@ -633,13 +649,13 @@ public final class MirrorDrill {
             return c >= '0' && c <= '9';
         }
 
-        private void scanWord() {
+        /** A word as a number, five bits a letter: one longer than a name can be is never looked at. */
+        private void packWord() {
             name = 0;
             while (at < length && isLetter(text[at])) {
-                name = name * 32 + letterNumber(text[at]);
+                name = name * 32 + (text[at] - 'a' + 1);
                 at++;
             }
-            token = at - place > LONGEST_WORD ? BAD : wordToken(name);
         }
 
         private void scanNumber() {
@@ -652,17 +668,13 @@ public final class MirrorDrill {
             token = good ? NUMBER : BAD;
         }
 
-        private static int letterNumber(int letter) {
-            return letter - 'a' + 1;
-        }
-
         private static int wordToken(long sought) {
             int found = MOVES;
             long word = 0;
             for (int i = 0; i < WORDS.length(); i++) {
                 char c = WORDS.charAt(i);
                 if (c != ' ') {
-                    word = word * 32 + letterNumber(c);
+                    word = word * 32 + (c - 'a' + 1);
                 } else if (word == sought) {
                     return found;
                 } else {
@@ -1220,8 +1232,9 @@ public final class MirrorDrill {
 
         private long waysBehind(int man, int left, int own) {
             long sum = 0;
+            int wanted = cell(goal, man);
             for (int right = 0; right < drill.moves; right++) {
-                if (leads(man, left, own, right)) {
+                if (drill.doesBy(man, view(left, own, right)) == wanted) {
                     sum += ways[wayAt(man + 1, own, right)];
                 }
             }
