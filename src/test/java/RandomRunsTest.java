@@ -30,10 +30,30 @@ public final class RandomRunsTest {
             story = new StringBuilder("run " + run + ": ");
             runOnce(run % 20 == 0 ? 30 : run % 5 == 0 ? 16 : 7);
         }
+        longOrphans();
         if (counted != null) {
             System.out.println(counted);
         }
         Calls.close("RandomRunsTest");
+    }
+
+    /** Rules whose shortest unmade rows are longer than a regiment. */
+    private static void longOrphans() {
+        x = new MirrorDrill();
+        model = new Model();
+        story = new StringBuilder("long orphans: ");
+        readText("moves 4;men 1;rule a left+right+(left=3 and own=3 and right=3)*2;"
+            + "rule b left+own*2+right+(left=2 and own=2 and right=2)*2;"
+            + "rule c left+own*3+right*3+(left=1 and own=1 and right=1)*2;"
+            + "rule d left+right+(left=3 and own=2 and right=3)*3;");
+        for (int rule = 0; rule < 4; rule++) {
+            both("orphan", rule);
+            for (int i = 0; i < 40; i++) {
+                both("lies", i);
+            }
+            both("about", 11);
+            both("one", rule);
+        }
     }
 
     private static void runOnce(int mostMen) {
