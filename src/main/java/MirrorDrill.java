@@ -1285,6 +1285,7 @@ public final class MirrorDrill {
     static final class Endless {
         private static final int LEAST_QUEUE = 64;
         private static final int MOST_PAIRS = MOST_MOVES * MOST_MOVES;
+        private static final int MOST_SETS = 1 << MOST_PAIRS;
         private static final int MOST_RING = 6;
 
         private Drill drill;
@@ -1319,7 +1320,7 @@ public final class MirrorDrill {
             take(drill, rule);
             layLeads();
             beginQueue();
-            for (int head = 0; head < queued; head++) {
+            for (int head = 0; head < queued && head < MOST_SETS; head++) {
                 long behind = behind(queue[head] & 0xFFFF);
                 for (int move = 0; move < moves; move++) {
                     int set = (int) (behind >>> (16 * move)) & 0xFFFF;

@@ -16,9 +16,14 @@ public final class PromiseBoundsTest {
         feedHowMany();
         feedTooMany();
         endWithAll();
+        endHidesTheRest();
         endRefused();
         tapeEmptyThen();
         allAnew();
+        nothingLeftOfOthers();
+        emptyBehindOthers();
+        fitsAnew();
+        roundAnew();
         timeStays();
         howManyMen();
         allStays();
@@ -125,6 +130,18 @@ public final class PromiseBoundsTest {
         trial.tape("!").due(0, "end", 0).due(0, "about", 8).due(0, "drill");
     }
 
+    /** What stood behind the first n bytes is no part of the text, not even directly behind a token. */
+    private static void endHidesTheRest() {
+        sentence("The TAPE has its first n bytes");
+        Trial.fresh().tape("moves 25;").due(7, "end", 7).due(NONE, "drill").due(2, "fault", 0).due(7, "fault", 1);
+        Trial.fresh().tape("moves 2x;").due(7, "end", 7).due(NONE, "drill").due(2, "fault", 0).due(7, "fault", 1);
+        Trial.fresh().tape("moves 2;men 3;rings;").due(18, "end", 18).due(NONE, "drill").due(2, "fault", 0).due(18, "fault", 1);
+        Trial.fresh().tape("moves 2; !").due(8, "end", 8).due(0, "drill");
+        Trial.fresh().tape("moves 2;men 3;").due(8, "end", 8).due(0, "drill").due(0, "about", 0);
+        String most = "moves 2;men 3;" + " ".repeat(1600 - 14 - 6) + "edge 1";
+        Trial.fresh().tape(most).due(NONE, "drill").due(2, "fault", 0).due(1600, "fault", 1);
+    }
+
     private static void endRefused() {
         sentence("NONE, doing nothing, if it has not so many, or n is below 0.");
         Trial trial = Trial.fresh().refused(NONE, "end", 1).refused(NONE, "end", -1).tape("moves 2;men 3;");
@@ -162,6 +179,59 @@ public final class PromiseBoundsTest {
         trial.row("0200").lie().refused(0, "undo").refused(0, "redo").refused(0, "untell", 0);
         trial.refused(NONE, "back", 0).refused(NONE, "back", 1).refused(NONE, "back", 2).due(1, "fits", 6).due(NONE, "sure", 0, 6);
         trial.due(0, "sight", 0, 1, 2).due(1, "wrong", 0, 6).due(0, "round", 0).due(1, "round", 1);
+    }
+
+    /** A text that tells all that can be told, of men who do the move with the greatest number. */
+    private static String rich(int men) {
+        StringBuilder text = new StringBuilder("moves 4;men " + men + ";ring;edge 3;worth 9 8 7 6;rule a own+1;rule b (left+2)*3;");
+        for (int man = 0; man < men; man++) {
+            text.append("man ").append(man).append(" does 3 by b turned").append(man % 2 == 0 ? " cracked" : "");
+            text.append(" window 3;");
+        }
+        return text.toString();
+    }
+
+    /** What was told in the drills before, or in a text with a fault, is nowhere left. */
+    private static void nothingLeftOfOthers() {
+        sentence("The TAPE (empty then) is the DRILL (no ACTS are kept");
+        String plain = "moves 4;men 6;rule x left*2+right;rule y own;";
+        String[][] ahead = {{}, {rich(6)}, {rich(6), rich(30)}, {rich(30), rich(6), rich(30)}, {rich(6), rich(6) + "oops;"},
+            {rich(6), rich(6), rich(30) + "oops;"}, {rich(6) + "man 0;"}};
+        for (String[] texts : ahead) {
+            Trial trial = Trial.fresh();
+            for (String text : texts) {
+                trial.tape(text).call("drill");
+            }
+            trial.tape(plain).due(6, "drill").row("000000").due(0, "worth").due(0, "about", 10).due(4, "about", 9).due(2, "about", 2);
+            for (int man = 0; man < 6; man++) {
+                trial.due(0, "order", man, (man + 1) % 4);
+            }
+            trial.due(9, "worth").due(1, "run", 1).row("210322").due(NONE, "made", 2, 0, 0, 0);
+        }
+    }
+
+    private static void emptyBehindOthers() {
+        sentence("The TAPE (empty then) is the DRILL");
+        String[] ends = {"", "moves 2;", "moves 3;"};
+        for (String end : ends) {
+            Trial trial = Trial.fresh().tape(rich(6)).due(6, "drill").tape(rich(6)).due(6, "drill").tape(end).due(0, "drill");
+            trial.row("").due(end.equals("moves 3;") ? 3 : 2, "about", 1).due(0, "about", 2).due(0, "about", 9).due(0, "about", 10);
+            trial.due(0, "worth").due(1, "before").lie().due(0, "round", 0).due(1, "round", 1).due(NONE, "made", 0, 0, 0, 0);
+        }
+    }
+
+    private static void fitsAnew() {
+        sentence("SIGHTS are none, nobody is UNSURE");
+        Trial trial = of("moves 4;men 2;").due(2, "unsure", 3).due(16, "fits", 0).due(-2, "sure", 0, 0);
+        trial.tape("moves 4;men 2;").due(2, "drill").due(1, "fits", 0).due(NONE, "sure", 0, 0);
+        trial.due(0, "sight", 0, 0, 1).due(0, "fits", 0).tape("moves 4;men 2;man 0 does 1;").due(2, "drill").due(1, "fits", 0);
+        trial.due(0, "sight", 0, 0, 1).due(1, "fits", 0).due(1, "unsure", 1).due(1, "sure", 0, 0);
+    }
+
+    private static void roundAnew() {
+        sentence("is the DRILL");
+        Trial trial = of("moves 4;men 2;rule a own+1;").due(4, "round", 1).tape("moves 4;men 2;rule a own+2;").due(2, "drill");
+        trial.due(2, "round", 1).tape("moves 4;men 2;rule a 1;").due(2, "drill").due(1, "round", 0).due(1, "round", 1);
     }
 
     private static void timeStays() {

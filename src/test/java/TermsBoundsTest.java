@@ -34,10 +34,12 @@ public final class TermsBoundsTest {
         tail();
         loop();
         spent();
+        spentByLoop();
         moreThanCanBeTold();
         firstBefore();
         endlessRow();
         shortestOrphan();
+        longOrphan();
         firstOrphan();
         noOrphan();
         oneToOne();
@@ -359,6 +361,22 @@ public final class TermsBoundsTest {
         trial.due(1, "undo").due(1, "undo").due(-2, "round", 0);
     }
 
+    private static void spentByLoop() {
+        sentence("if TAIL and LOOP are above 3,000 together");
+        Trial of2999 = of("moves 4;men 16;rule a (left*42+own*11+right*40+4)*(left+own*6+right*7+8)/4%91;man 0 does 1;man 3 does 1;");
+        of2999.due(114, "run", 114).due(-2, "round", 0).due(-2, "round", 1).due(115, "run", 1).due(1, "round", 0);
+        of2999.due(2999, "round", 1).due(116, "run", 1).due(0, "round", 0).due(2999, "round", 1);
+        Trial of3000 = of("moves 4;men 12;ring;rule a (left*49+own*32+right*17+7)*(left*4+own*3+1)/2%86;man 0 does 1;");
+        of3000.due(-2, "round", 0).due(-2, "round", 1).due(1, "run", 1).due(0, "round", 0).due(3000, "round", 1);
+        of3000.due(501, "run", 500).due(0, "round", 0).due(3000, "round", 1);
+        of("moves 4;men 17;ring;rule a (left*19+own*46+right*37)*(left+own*6+right+8)/4%64;man 0 does 1;man 3 does 1;")
+            .due(0, "round", 0).due(3000, "round", 1);
+        Trial of3001 = of("moves 4;men 13;rule a (left*24+own*5+right*16+2)*(left*7+own*6+right*7+4)/5%83;man 0 does 1;man 3 does 1;");
+        Trial of1 = of("moves 4;men 17;ring;rule a (left*12+own*7+right*45+4)*(left*3+own*5+right*3+3)%63;man 0 does 1;");
+        of1.due(95, "run", 95).due(-2, "round", 0).due(-2, "round", 1).due(96, "run", 1).due(2999, "round", 0).due(1, "round", 1);
+        of3001.due(47, "run", 47).due(-2, "round", 0).due(-2, "round", 1).due(547, "run", 500).due(-2, "round", 0);
+    }
+
     /** From a man on, each two did no more than 3 together: ten ways for each. */
     private static String tens(String first, int from) {
         StringBuilder text = new StringBuilder("moves 4;men 30;rule a own+right>3;rule z 0;").append(first);
@@ -409,6 +427,26 @@ public final class TermsBoundsTest {
         trial.due(5, "orphan", 4).lie(0, 1, 0, 0, 1);
     }
 
+    /** An orphan can be longer than a row of men. */
+    private static void longOrphan() {
+        sentence("the shortest row of MOVES that never stands in an endless row");
+        Trial trial = of("moves 4;men 1;rule a left+right+(left=3 and own=3 and right=3)*2;"
+            + "rule b left+own*2+right+(left=2 and own=2 and right=2)*2;"
+            + "rule c left+own*3+right*3+(left=1 and own=1 and right=1)*2;"
+            + "rule d left+right+(left=3 and own=2 and right=3)*3;rule e own;");
+        String[] want = {"2002020021020210202120230212021021202", "010101020303011010100101010203030",
+            "3032303130303132303032313231313", "222200222212222002222", ""};
+        for (int rule = 0; rule < 5; rule++) {
+            trial.due(want[rule].length(), "orphan", rule);
+            int[] lies = new int[want[rule].length()];
+            for (int i = 0; i < lies.length; i++) {
+                lies[i] = want[rule].charAt(i) - '0';
+            }
+            trial.lie(lies);
+        }
+        of("moves 3;men 1;rule a left*right+own;").due(8, "orphan", 0).lie(0, 1, 1, 0, 1, 1, 0, 1);
+    }
+
     private static void firstOrphan() {
         sentence("of like ones the first; none, if there is none.");
         of("moves 4;men 1;rule a 0;").due(1, "orphan", 0).lie(1);
@@ -448,6 +486,10 @@ public final class TermsBoundsTest {
         trial.due(0, "keeps", 0).due(0, "keeps", 1).due(0, "keeps", 2).due(1, "keeps", 3);
         of("moves 3;men 1;rule a own+(left=0 and own=1 and right=2)-(left=1 and own=2 and right=0);rule b own;")
             .due(0, "keeps", 0).due(1, "keeps", 1);
+        of("moves 2;men 1;rule a right;rule b own+(left+own+right=0);rule c own-(left*own*right=1);")
+            .due(1, "keeps", 0).due(0, "keeps", 1).due(0, "keeps", 2);
+        of("moves 4;men 1;rule a left;rule b right;rule c own-(left*own*right=27);")
+            .due(1, "keeps", 0).due(1, "keeps", 1).due(0, "keeps", 2);
     }
 
     private static void keepsAsTold() {
@@ -484,6 +526,18 @@ public final class TermsBoundsTest {
         trial.due(0, "glint", 0, 3, 7).due(1, "glint", 0, 2, 7).lie(7, 3);
         trial.due(0, "glint", 0, 0, 8).due(1, "glint", 0, 2, 8).lie(8, 2).due(-2, "glint", 0, 2, 9).lie();
         trial.tape("moves 4;men 30;ring;rule a right+1;").due(30, "drill").due(1, "glint", 24, 2, 8).lie(2, 2);
+        for (int men = 8; men <= 9; men++) {
+            Trial left = of("moves 2;men " + men + ";ring;rule a left;");
+            Trial right = of("moves 2;men " + men + ";ring;rule a right;");
+            for (int n = 0; n <= 7; n++) {
+                left.due(1, "glint", 0, 1, n).lie((men - n) % men, 1).due(1, "glint", men - 1, 1, n).lie(men - 1 - n, 1);
+                right.due(1, "glint", 0, 1, n).lie(n, 1).due(1, "glint", men - 1, 1, n).lie((men - 1 + n) % men, 1);
+            }
+        }
+        of("moves 2;men 1;ring;rule a left;").due(1, "glint", 0, 1, 8).lie(0, 1);
+        of("moves 2;men 2;ring;rule a left;").due(1, "glint", 0, 1, 8).lie(0, 1).due(1, "glint", 0, 1, 7).lie(1, 1);
+        of("moves 2;men 3;ring;rule a left;").due(1, "glint", 0, 1, 8).lie(1, 1).due(1, "glint", 0, 1, 7).lie(2, 1);
+        of("moves 2;men 2;rule a left;").due(1, "glint", 1, 1, 1).lie(0, 1).due(NONE, "glint", 1, 1, 8).lie();
     }
 
     private static void glintMen() {
@@ -541,6 +595,10 @@ public final class TermsBoundsTest {
         trial.due(0, "cracks", 1, 2, 30).due(1, "cracks", 1, 0, 30).lie(1).due(-2, "cracks", 1, 0, 31).lie();
         of("moves 2;men 30;rule a right;man 29 does 1;").due(1, "cracks", 0, 1, 30).lie(29);
         of("moves 2;men 30;ring;rule a left;man 0 does 1;").due(0, "cracks", 0, 1, 30).due(1, "cracks", 0, 0, 30).lie(1);
+        of("moves 4;men 1;ring;rule a left+right+1;").due(0, "cracks", 0, 3, 30).due(1, "cracks", 0, 0, 30).lie(0)
+            .due(NONE, "cracks", 0, 1, 30).lie();
+        of("moves 2;men 2;ring;rule a left;man 0 does 1;").due(1, "cracks", 0, 0, 30).lie(1).due(1, "cracks", 1, 1, 30).lie(0);
+        of("moves 2;men 3;ring;rule a left;man 0 does 1;").due(0, "cracks", 0, 1, 30).due(1, "cracks", 0, 0, 30).lie(1);
     }
 
     /** Who is cracked hides all those behind him, so two, one at each side, are always enough. */
@@ -566,6 +624,8 @@ public final class TermsBoundsTest {
             }
             of(text.toString()).due(4, "run", 4).due(1, "does", 3);
         }
+        of("moves 2;men 5;ring;rule a left and right;rule b left+right;man 0 does 1 by b;man 1 does 1 by b;man 2 does 1 by b;"
+            + "man 3 does 1 by b;man 4 does 0 by a;").due(2, "cracks", 4, 1, 4).lie(0, 1);
         of("moves 2;men 4;rule a right;man 0 does 1;man 1 does 1;man 2 does 1;man 3 does 1;").due(1, "cracks", 0, 1, 9).lie(0);
     }
 
