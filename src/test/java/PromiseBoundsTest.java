@@ -21,6 +21,8 @@ public final class PromiseBoundsTest {
         tapeEmptyThen();
         allAnew();
         nothingLeftOfOthers();
+        fewerBehindMore();
+        beforeBehindOthers();
         emptyBehindOthers();
         fitsAnew();
         roundAnew();
@@ -208,6 +210,31 @@ public final class PromiseBoundsTest {
             }
             trial.due(9, "worth").due(1, "run", 1).row("210322").due(NONE, "made", 2, 0, 0, 0);
         }
+    }
+
+    /** An odd number of men, and fewer moves, behind more men and more moves. */
+    private static void fewerBehindMore() {
+        sentence("is the DRILL (no ACTS are kept, no BEATS were");
+        String[][] ahead = {{}, {rich(30)}, {rich(30), rich(30)}, {rich(30), rich(29), rich(30) + "oops;"}};
+        for (String[] texts : ahead) {
+            Trial trial = Trial.fresh();
+            for (String text : texts) {
+                trial.tape(text).call("drill");
+                trial.times(1, "before").times(1, "orphan", 0).times(1, "one", 1).times(1, "round", 0).times(1, "cracks", 0, 1, 30);
+            }
+            trial.tape("moves 2;men 5;rule x left+right+1;").due(5, "drill").due(1, "run", 1).row("11111").due(2, "run", 1).row("01110");
+            trial.due(3, "run", 1).row("00100").due(4, "run", 1).row("10101").due(1, "fits", 0).due(3, "about", 9);
+        }
+    }
+
+    private static void beforeBehindOthers() {
+        sentence("BEFORE: how many.");
+        Trial trial = of("moves 4;men 30;ring;rule a 0;").due(1000000000000000L, "before");
+        trial.tape("moves 2;men 3;ring;rule a own;man 1 does 1;").due(3, "drill").due(1, "before").lie(0, 1, 0);
+        trial.tape("moves 4;men 30;rule a 0;").due(30, "drill").due(1000000000000000L, "before").due(30, "about", 11);
+        trial.tape("moves 2;men 3;ring;rule a left;man 1 does 1;").due(3, "drill").due(1, "before").lie(1, 0, 0);
+        trial.tape("moves 3;men 1;ring;rule a left*right;man 0 does 1;").due(1, "drill").due(2, "before").lie(1);
+        trial.tape("moves 2;men 2;rule a left;").due(2, "drill").due(2, "before").lie(0, 0);
     }
 
     private static void emptyBehindOthers() {

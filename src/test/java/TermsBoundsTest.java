@@ -644,6 +644,9 @@ public final class TermsBoundsTest {
         trial.due(1, "glint", 1, 1, 1).due(NONE, "cracks", 1, 2, 1).lie();
         trial.due(1, "glint", 1, 1, 1).due(0, "cracks", 1, 0, 1).lie();
         trial.due(0, "glint", 0, 1, 8).lie();
+        of("moves 2;men 3;rule a left;").due(NONE, "glint", 0, 1, 1).lie().due(NONE, "glint", 2, 1, 3).lie();
+        of("moves 2;men 3;rule a right;").due(NONE, "glint", 2, 1, 1).lie().due(NONE, "glint", 0, 1, 3).lie();
+        of("moves 2;men 3;rule a right;").due(NONE, "cracks", 2, 1, 1).lie().due(NONE, "cracks", 0, 1, 3).lie();
     }
 
     private static void thirtySights() {
