@@ -403,8 +403,9 @@ public final class MirrorDrill {
             return rule >= 0 && rule < rules;
         }
 
-        void setMade(int rule, int seen, int move) {
-            table[rule * VIEWS + seen] = (byte) move;
+        /** A formula's value becomes a move. */
+        void setMade(int rule, int seen, int value) {
+            table[rule * VIEWS + seen] = (byte) (moves > 0 ? Math.floorMod(value, moves) : 0);
         }
 
         int makes(int rule, int seen) {
@@ -806,7 +807,7 @@ public final class MirrorDrill {
                 return false;
             }
             for (int seen = 0; seen < VIEWS; seen++) {
-                target.setMade(rule, seen, Math.floorMod(parts[seen], target.moves));
+                target.setMade(rule, seen, parts[seen]);
             }
             target.rules++;
             return true;
@@ -1312,6 +1313,14 @@ public final class MirrorDrill {
             return drill.makes(rule, view(left, own, right));
         }
 
+        private int leftOf(int pair) {
+            return moves > 0 ? pair / moves : 0;
+        }
+
+        private int ownOf(int pair) {
+            return moves > 0 ? pair % moves : 0;
+        }
+
         /**
          * Goes through the sets of pairs (the last two moves of what can have been there) by the
          * moves made, shortest and first ones ahead, till nothing can have been there.
@@ -1349,9 +1358,9 @@ public final class MirrorDrill {
 
         private long leadsOf(int pair) {
             long sum = 0;
-            if (pair < pairs && moves > 0) {
-                int left = pair / moves;
-                int own = pair % moves;
+            if (pair < pairs) {
+                int left = leftOf(pair);
+                int own = ownOf(pair);
                 for (int right = 0; right < moves; right++) {
                     sum |= 1L << (16 * makes(left, own, right) + own * moves + right);
                 }
@@ -1450,10 +1459,10 @@ public final class MirrorDrill {
 
         private boolean goesOn(int one, int other) {
             for (int right = 0; right < moves; right++) {
-                int made = makes(one / moves, one % moves, right);
+                int made = makes(leftOf(one), ownOf(one), right);
                 for (int next = 0; next < moves; next++) {
-                    if (made == makes(other / moves, other % moves, next)
-                        && walkTogether(one % moves * moves + right, other % moves * moves + next)) {
+                    if (made == makes(leftOf(other), ownOf(other), next)
+                        && walkTogether(ownOf(one) * moves + right, ownOf(other) * moves + next)) {
                         return true;
                     }
                 }
@@ -1463,10 +1472,10 @@ public final class MirrorDrill {
 
         private boolean cameFrom(int one, int other) {
             for (int left = 0; left < moves; left++) {
-                int made = makes(left, one / moves, one % moves);
+                int made = makes(left, leftOf(one), ownOf(one));
                 for (int last = 0; last < moves; last++) {
-                    if (made == makes(last, other / moves, other % moves)
-                        && walkTogether(left * moves + one / moves, last * moves + other / moves)) {
+                    if (made == makes(last, leftOf(other), ownOf(other))
+                        && walkTogether(left * moves + leftOf(one), last * moves + leftOf(other))) {
                         return true;
                     }
                 }
